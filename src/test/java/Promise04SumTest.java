@@ -1,0 +1,103 @@
+public final class Promise04SumTest {
+    private static final Check check = new Check("Promise 4: sum");
+
+    public static void main(String[] args) {
+        adds();
+        sameBags();
+        namesWithoutSign();
+        refusesWhatIsNoLong();
+        countsKindsOfTheResult();
+        wrongInputs();
+        check.end();
+    }
+
+    private static void adds() {
+        CoinBag x = Check.small();
+        check.yes("sum(0, 1, 2)", x.sum(0, 1, 2));
+        check.bag("sum(0, 1, 2)", x, 2, "5/1:13 5/2:-4 7/18446744073709551615:2 9/0:7");
+        check.bag("sum(0, 1, 2)", x, 0, "5/1:10 5/2:-4 9/0:7");
+        check.bag("sum(0, 1, 2)", x, 1, "5/1:3 7/18446744073709551615:2");
+        check.yes("sum(0, 7, 3)", x.sum(0, 7, 3));
+        check.bag("sum(0, 7, 3)", x, 3, "5/1:10 5/2:-4 9/0:7");
+        check.yes("sum(7, 0, 4)", x.sum(7, 0, 4));
+        check.bag("sum(7, 0, 4)", x, 4, "5/1:10 5/2:-4 9/0:7");
+        check.yes("sum(6, 7, 2)", x.sum(6, 7, 2));
+        check.bag("sum(6, 7, 2)", x, 2, "");
+        x.set(5, 5, 1, -10);
+        x.set(5, 9, 0, -7);
+        check.yes("sum(0, 5, 6)", x.sum(0, 5, 6));
+        check.bag("sum(0, 5, 6)", x, 6, "5/2:-4");
+    }
+
+    private static void sameBags() {
+        CoinBag x = Check.small();
+        check.yes("sum(0, 1, 0)", x.sum(0, 1, 0));
+        check.bag("sum(0, 1, 0)", x, 0, "5/1:13 5/2:-4 7/18446744073709551615:2 9/0:7");
+        check.yes("sum(2, 1, 1)", x.sum(2, 1, 1));
+        check.bag("sum(2, 1, 1)", x, 1, "1/1:1 5/1:3 7/18446744073709551615:2");
+        check.bag("sum(2, 1, 1)", x, 2, "1/1:1");
+        check.yes("sum(2, 2, 2)", x.sum(2, 2, 2));
+        check.bag("sum(2, 2, 2)", x, 2, "1/1:2");
+        check.yes("set(2, 1, 1, 9)", x.set(2, 1, 1, 9));
+        check.bag("sum(2, 1, 1), then a set in 2", x, 1, "1/1:1 5/1:3 7/18446744073709551615:2");
+    }
+
+    private static void namesWithoutSign() {
+        CoinBag x = new CoinBag();
+        x.set(0, 1, -1, 1);
+        x.set(0, 1, 5, 2);
+        x.set(1, 1, Long.MIN_VALUE, 3);
+        x.set(1, 1, 5, 4);
+        x.set(1, 1, Long.MAX_VALUE, 5);
+        check.yes("sum(0, 1, 2)", x.sum(0, 1, 2));
+        check.bag("sum(0, 1, 2)", x, 2,
+                "1/5:6 1/9223372036854775807:5 1/9223372036854775808:3 1/18446744073709551615:1");
+    }
+
+    private static void refusesWhatIsNoLong() {
+        CoinBag x = Check.small();
+        x.set(3, 5, 1, Long.MAX_VALUE);
+        x.set(4, 5, 2, Long.MIN_VALUE);
+        String before = Check.all(x);
+        check.no("sum(0, 3, 2)", x.sum(0, 3, 2));
+        check.no("sum(4, 0, 4)", x.sum(4, 0, 4));
+        check.no("sum(3, 3, 3)", x.sum(3, 3, 3));
+        check.no("sum(4, 4, 0)", x.sum(4, 4, 0));
+        check.same("refused sums", x, before);
+        x.set(5, 5, 1, Long.MIN_VALUE);
+        check.yes("sum(3, 5, 6)", x.sum(3, 5, 6));
+        check.bag("sum(3, 5, 6)", x, 6, "5/1:-1");
+    }
+
+    private static void countsKindsOfTheResult() {
+        CoinBag x = new CoinBag();
+        Check.fill(x, 0, 1, 64, 1);
+        x.set(1, 2, 0, 1);
+        x.set(2, 0, 0, 1);
+        x.times(0, 1, 3);
+        x.set(5, 9, 9, 9);
+        check.no("sum to 65 KINDS, the last from b", x.sum(0, 1, 5));
+        check.no("sum to 65 KINDS, the last from a", x.sum(2, 0, 5));
+        check.no("sum to 65 KINDS over a", x.sum(0, 1, 0));
+        check.bag("refused sums", x, 5, "9/9:9");
+        check.due("compare(0, 3)", 0, x.compare(0, 3));
+        x.set(1, 1, 63, -1);
+        check.yes("sum to 64 KINDS, one of 65 becoming 0", x.sum(0, 1, 4));
+        check.due("size(4)", 64, x.size(4));
+        x.times(0, -1, 6);
+        x.set(6, 1, 0, 5);
+        check.yes("sum of 64 and 64 KINDS to 1", x.sum(0, 6, 6));
+        check.bag("sum of 64 and 64 KINDS to 1", x, 6, "1/0:6");
+    }
+
+    private static void wrongInputs() {
+        CoinBag x = Check.small();
+        String before = Check.all(x);
+        for (int bag : Check.NO_BAGS) {
+            check.throwsIndex("sum(" + bag + ", 0, 1)", () -> x.sum(bag, 0, 1));
+            check.throwsIndex("sum(0, " + bag + ", 1)", () -> x.sum(0, bag, 1));
+            check.throwsIndex("sum(0, 1, " + bag + ")", () -> x.sum(0, 1, bag));
+        }
+        check.same("wrong sums", x, before);
+    }
+}
