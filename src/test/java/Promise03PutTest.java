@@ -37,8 +37,10 @@ public final class Promise03PutTest {
         check.bag("puts of the other sign", x, 0, "1/0:-1 2/0:-1");
         check.yes("put MIN + 1 on -1", x.put(0, 1, 0, Long.MIN_VALUE + 1));
         check.yes("put MIN on nothing", x.put(0, 3, 0, Long.MIN_VALUE));
-        check.bag("puts to MIN", x, 0,
-                "1/0:-9223372036854775808 2/0:-1 3/0:-9223372036854775808");
+        x.set(0, 4, 0, 1);
+        check.yes("put MAX - 1 on 1", x.put(0, 4, 0, Long.MAX_VALUE - 1));
+        check.bag("puts to MIN and to MAX", x, 0, "1/0:-9223372036854775808 2/0:-1"
+                + " 3/0:-9223372036854775808 4/0:9223372036854775807");
     }
 
     private static void refusesKind65() {

@@ -4,6 +4,7 @@ public final class Promise04SumTest {
     public static void main(String[] args) {
         adds();
         sameBags();
+        kindsAtOtherPlaces();
         namesWithoutSign();
         refusesWhatIsNoLong();
         countsKindsOfTheResult();
@@ -42,6 +43,21 @@ public final class Promise04SumTest {
         check.bag("sum(2, 1, 1), then a set in 2", x, 1, "1/1:1 5/1:3 7/18446744073709551615:2");
     }
 
+    private static void kindsAtOtherPlaces() {
+        CoinBag x = new CoinBag();
+        x.set(0, 1, 1, 1);
+        x.set(0, 2, 2, 2);
+        x.set(0, 4, 4, 4);
+        x.set(1, 2, 2, 20);
+        x.set(1, 3, 3, 30);
+        x.set(1, 3, 4, 31);
+        x.set(1, 4, 4, 40);
+        check.yes("sum(0, 1, 2)", x.sum(0, 1, 2));
+        check.bag("sum(0, 1, 2)", x, 2, "1/1:1 2/2:22 3/3:30 3/4:31 4/4:44");
+        check.yes("sum(1, 0, 3)", x.sum(1, 0, 3));
+        check.bag("sum(1, 0, 3)", x, 3, "1/1:1 2/2:22 3/3:30 3/4:31 4/4:44");
+    }
+
     private static void namesWithoutSign() {
         CoinBag x = new CoinBag();
         x.set(0, 1, -1, 1);
@@ -67,6 +83,12 @@ public final class Promise04SumTest {
         x.set(5, 5, 1, Long.MIN_VALUE);
         check.yes("sum(3, 5, 6)", x.sum(3, 5, 6));
         check.bag("sum(3, 5, 6)", x, 6, "5/1:-1");
+        check.yes("sum(3, 2, 6)", x.sum(3, 2, 6));
+        check.bag("sum(3, 2, 6)", x, 6, "1/1:1 5/1:9223372036854775807");
+        x.set(2, 5, 1, -1);
+        x.set(3, 5, 1, Long.MIN_VALUE + 1);
+        check.yes("sum(2, 3, 6)", x.sum(2, 3, 6));
+        check.bag("sum(2, 3, 6)", x, 6, "1/1:1 5/1:-9223372036854775808");
     }
 
     private static void countsKindsOfTheResult() {

@@ -12,11 +12,12 @@ public final class Promise08PartTest {
     private static void picks() {
         CoinBag x = Check.small();
         x.set(0, 0, 0, -1);
+        x.set(0, 0, 1, 1);
         check.yes("part(0, 1, 2)", x.part(0, 1, 2));
-        check.bag("part(0, 1, 2)", x, 2, "5/1:10 9/0:7");
+        check.bag("part(0, 1, 2)", x, 2, "0/1:1 5/1:10 9/0:7");
         check.yes("part(0, -1, 2)", x.part(0, -1, 2));
         check.bag("part(0, -1, 2)", x, 2, "0/0:1 5/2:4");
-        check.bag("both parts", x, 0, "0/0:-1 5/1:10 5/2:-4 9/0:7");
+        check.bag("both parts", x, 0, "0/0:-1 0/1:1 5/1:10 5/2:-4 9/0:7");
         check.yes("part(1, -1, 2)", x.part(1, -1, 2));
         check.bag("part(1, -1, 2)", x, 2, "");
         check.yes("part(7, 1, 1)", x.part(7, 1, 1));
