@@ -2,8 +2,13 @@
 final class Check {
     static final int[] NO_BAGS = {-1, 8, Integer.MIN_VALUE, Integer.MAX_VALUE};
     static final int[] NO_POLICIES = {-1, 65536, Integer.MIN_VALUE, Integer.MAX_VALUE};
+    static final long MIN = Long.MIN_VALUE;
+    static final long MAX = Long.MAX_VALUE;
 
     private final String title;
+    private String sentence = "";
+    private int sentences = 0;
+    private int answersBefore = 0;
     private int right = 0;
     private int wrong = 0;
 
@@ -11,12 +16,28 @@ final class Check {
         this.title = title;
     }
 
+    /** The document's words that the checks from here on belong to. */
+    void sentence(String words) {
+        closeSentence();
+        sentence = words;
+        sentences++;
+        answersBefore = right + wrong;
+    }
+
+    // A sentence that is named but looked at by nothing would seem to be tested.
+    private void closeSentence() {
+        if (sentences > 0 && right + wrong == answersBefore) {
+            wrong++;
+            System.out.println(title + ": nothing is checked for \"" + sentence + "\"");
+        }
+    }
+
     void due(String call, Object want, Object got) {
         if (want.equals(got)) {
             right++;
         } else {
             wrong++;
-            System.out.println(title + ": " + call + " answered " + got + ", due is " + want);
+            System.out.println(title + ", \"" + sentence + "\": " + call + " answered " + got + ", due is " + want);
         }
     }
 
@@ -30,6 +51,10 @@ final class Check {
 
     void no(String call, boolean got) {
         due(call, (Object) false, (Object) got);
+    }
+
+    void throwsNothing(String call, Runnable run) {
+        due(call, "nothing", thrownBy(run));
     }
 
     void throwsIndex(String call, Runnable run) {
@@ -97,8 +122,19 @@ final class Check {
         }
     }
 
+    /** What bag tells of a BAG that fill has made. */
+    static String filled(int policy, int kinds, long amount) {
+        StringBuilder text = new StringBuilder();
+        for (int name = 0; name < kinds; name++) {
+            text.append(name == 0 ? "" : " ").append(policy).append('/').append(name).append(':').append(amount);
+        }
+        return text.toString();
+    }
+
     void end() {
-        System.out.println(title + ": " + right + " right, " + wrong + " wrong");
+        closeSentence();
+        System.out.println(title + ": " + right + " right, " + wrong + " wrong"
+                + (sentences == 0 ? "" : ", for " + sentences + " sentences or parts of one"));
         if (wrong != 0 || right == 0) {
             System.exit(1);
         }
