@@ -34,6 +34,7 @@ public final class FaceTest {
         check.due("the constructors that show", Set.of("()"), shownConstructors());
         check.due("the fields that show", Set.of("public static final int NONE"), shownFields());
         check.due("private methods with a public one's name", Set.of(), sharedNames());
+        check.due("classes inside that show or aren't static", Set.of(), wrongClassesInside());
         check.end();
     }
 
@@ -80,5 +81,16 @@ public final class FaceTest {
         }
         hidden.retainAll(open);
         return hidden;
+    }
+
+    private static Set<String> wrongClassesInside() {
+        Set<String> found = new TreeSet<>();
+        for (Class<?> inside : CoinBag.class.getDeclaredClasses()) {
+            int has = inside.getModifiers();
+            if (Modifier.isPublic(has) || Modifier.isProtected(has) || !Modifier.isStatic(has)) {
+                found.add(inside.getSimpleName());
+            }
+        }
+        return found;
     }
 }

@@ -41,7 +41,7 @@ public final class Promise07OnlyTest {
     }
 
     private static void firstAndLastPolicy() {
-        check.sentence("the KINDS of a POLICY alone, or all others: POLICY 0 and 65535");
+        check.sentence("the KINDS of a POLICY alone .. or all others: POLICY 0 and 65535");
         CoinBag x = five();
         x.only(0, 0, true, 3);
         check.bag("only(0, 0, true, 3)", x, 3, "0/4:1");
@@ -54,7 +54,7 @@ public final class Promise07OnlyTest {
     }
 
     private static void policyThatIsNotThere() {
-        check.sentence("the KINDS of a POLICY alone, or all others: none of that POLICY");
+        check.sentence("the KINDS of a POLICY alone .. or all others: none of that POLICY");
         CoinBag x = five();
         x.set(3, 1, 1, 1);
         x.only(0, 6, true, 3);
